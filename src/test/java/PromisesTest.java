@@ -252,7 +252,7 @@ public final class PromisesTest {
     private static void evenly() {
         due("new: evenly()", new TwoFlows().evenly(), 0);
         due("bridge: evenly()", bridge().evenly(), 3);
-        due("first binds: evenly()", network(0, 1, 2, 2, 3, 3).evenly(), 2);
+        due("first binds: evenly()", network(0, 1, 2, 2, 3, 9).evenly(), 2);
         due("second binds: evenly()", network(0, 1, 9, 2, 3, 4).evenly(), 4);
         due("an odd sum: evenly()", network(0, 4, 9, 2, 4, 9, 4, 5, 7, 5, 1, 9, 5, 3, 9).evenly(), 3);
         due("one good only: evenly()", network(0, 1, 20).evenly(), 0);
