@@ -7,29 +7,17 @@ import java.util.TreeSet;
 
 /** The class has the document's public face, and every other member is private. */
 public final class FaceTest {
-    private static int wrong = 0;
-
     public static void main(String[] args) {
         Class<?> c = TwoFlows.class;
         int classModifiers = c.getModifiers();
-        due("class modifiers", Modifier.toString(classModifiers), "public final");
-        due("nested classes", String.valueOf(c.getDeclaredClasses().length), "0");
-        due("superclass", c.getSuperclass().getName(), "java.lang.Object");
-        due("interfaces", String.valueOf(c.getInterfaces().length), "0");
+        Check.due("class modifiers", Modifier.toString(classModifiers), "public final");
+        Check.due("nested classes", String.valueOf(c.getDeclaredClasses().length), "0");
+        Check.due("superclass", c.getSuperclass().getName(), "java.lang.Object");
+        Check.due("interfaces", String.valueOf(c.getInterfaces().length), "0");
         constructors(c);
         methods(c);
         fields(c);
-        System.out.println(wrong == 0 ? "the face is as due" : wrong + " parts of the face are not as due");
-        if (wrong != 0) {
-            System.exit(1);
-        }
-    }
-
-    private static void due(String what, String got, String want) {
-        if (!got.equals(want)) {
-            wrong++;
-            System.out.println(what + ": " + got + ", due is " + want);
-        }
+        Check.end();
     }
 
     private static void constructors(Class<?> c) {
@@ -37,7 +25,7 @@ public final class FaceTest {
         for (Constructor<?> made : c.getDeclaredConstructors()) {
             got.add(made.toString());
         }
-        due("constructors", got.toString(), "[public TwoFlows()]");
+        Check.due("constructors", got.toString(), "[public TwoFlows()]");
     }
 
     private static void methods(Class<?> c) {
@@ -60,7 +48,7 @@ public final class FaceTest {
             "public int worth(int,int)",
             "public int loss(int,int)",
             "public boolean full(int,int)"));
-        due("methods", got.toString(), want.toString());
+        Check.due("methods", got.toString(), want.toString());
     }
 
     private static void fields(Class<?> c) {
@@ -70,7 +58,7 @@ public final class FaceTest {
                 got.add(f.toString());
             }
         }
-        due("constants", got.toString(), "[public static final int TwoFlows.BAD]");
-        due("BAD", String.valueOf(TwoFlows.BAD), "-1");
+        Check.due("constants", got.toString(), "[public static final int TwoFlows.BAD]");
+        Check.due("BAD", String.valueOf(TwoFlows.BAD), "-1");
     }
 }

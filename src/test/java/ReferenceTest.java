@@ -6,7 +6,6 @@ public final class ReferenceTest {
     private static final int NETWORKS = 150;
     private static final int CALLS_OF_ONE_OBJECT = 512;
 
-    private static int wrong = 0;
     private static long seed = 20261115;
     private static int[][] wanted = new int[6][6];
     private static TwoFlows made;
@@ -18,10 +17,7 @@ public final class ReferenceTest {
             make();
             compareNetwork(n);
         }
-        System.out.println(wrong == 0 ? "all answers are as due" : wrong + " answers are not as due");
-        if (wrong != 0) {
-            System.exit(1);
-        }
+        Check.end();
     }
 
     /** A fixed sequence of numbers, so that each run tests the same networks. */
@@ -65,10 +61,7 @@ public final class ReferenceTest {
     }
 
     private static void due(int n, String call, int got, int want) {
-        if (got != want) {
-            wrong++;
-            System.out.println("network " + n + ": " + call + " answered " + got + ", due is " + want);
-        }
+        Check.due("network " + n + ": " + call, got, want);
     }
 
     private static void compareNetwork(int n) {
